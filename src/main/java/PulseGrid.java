@@ -366,8 +366,8 @@ public final class PulseGrid {
         switch (what) {
             case 0: return tiles.count;
             case 1: return tiles.crossings;
-            case 2: return tiles.longest > 0 ? 1 : 0;
-            case 3: return tiles.longest;
+            case 2: return tiles.longestRow(loop) > 0 ? 1 : 0;
+            case 3: return tiles.longestRow(loop);
             default: return NONE;
         }
     }
@@ -689,7 +689,7 @@ public final class PulseGrid {
         private int digits() {
             int all = 0;
             for (int k = place; k < behind; k++) {
-                all = Math.min(HUGE, all * 10 + bytes[k] - '0');
+                all = all < HUGE ? all * 10 + bytes[k] - '0' : HUGE;
             }
             return all;
         }
@@ -1603,8 +1603,8 @@ public final class PulseGrid {
                 case Loop.ROW: return i;
                 case Loop.COLUMN: return j;
                 case Loop.NEGATED: return -results[left];
-                case Loop.LESSER: return Math.min(results[left], results[right]);
-                case Loop.GREATER: return Math.max(results[left], results[right]);
+                case Loop.LESSER: return results[left] < results[right] ? results[left] : results[right];
+                case Loop.GREATER: return results[left] > results[right] ? results[left] : results[right];
                 case Loop.PLUS: return results[left] + results[right];
                 case Loop.LESS: return results[left] - results[right];
                 case Loop.TIMES: return results[left] * results[right];
@@ -1682,17 +1682,14 @@ public final class PulseGrid {
 
     /** The points cut into tiles, and which tile hangs on which. */
     private static final class Tiles {
-        final int[] tileOf = new int[SQUARE];
         final int[] waits = new int[SQUARE];
         final int[] rank = new int[SQUARE];
         final int[] queue = new int[SQUARE];
-        int high;
-        int wide;
-        int across;
+        int high = 1;
+        int wide = 1;
+        int across = 1;
         int count;
         int crossings;
-        // 0 if the tiles can't be done one whole behind another.
-        int longest;
         int queued;
         int bestRows;
         int bestColumns;
@@ -1704,41 +1701,58 @@ public final class PulseGrid {
             across = (loop.columns + wide - 1) / wide;
             count = (loop.rows + high - 1) / high * across;
             crossings = 0;
-            queued = 0;
-            Arrays.fill(waits, 0);
-            Arrays.fill(rank, 0);
-            for (int k = 0; k < loop.points(); k++) {
-                int point = loop.pointAt(k);
-                tileOf[point] = point / SIDE / high * across + point % SIDE / wide;
+            for (int k = 0; k < loop.offsets; k++) {
+                int a = loop.offsetA[k];
+                int b = loop.offsetB[k];
+                crossings += loop.shifted(a, b) - together(loop.rows, a, high) * together(loop.columns, b, wide);
             }
-            for (int k = 0; k < loop.points(); k++) {
-                countCrossings(loop, loop.pointAt(k));
-            }
-            longest = longestRow(loop);
         }
 
-        private void countCrossings(Loop loop, int point) {
-            for (int k = 0; k < loop.offsets; k++) {
-                int below = loop.target(point, k);
-                if (below != NONE && tileOf[below] != tileOf[point]) {
-                    crossings++;
-                    waits[tileOf[point]]++;
+        /** Of so many places in a row, how many have the one a step away within their own piece of the row. */
+        private static int together(int places, int step, int piece) {
+            int all = 0;
+            for (int k = Math.max(0, -step); k < Math.min(places, places - step); k++) {
+                if (k / piece == (k + step) / piece) {
+                    all++;
                 }
             }
+            return all;
         }
 
-        private int longestRow(Loop loop) {
+        /** How many tiles are on the longest row; 0 if they can't be done one whole behind another. */
+        int longestRow(Loop loop) {
+            countWaits(loop);
+            queued = 0;
             for (int k = 0; k < count; k++) {
+                rank[k] = 1;
                 if (waits[k] == 0) {
                     enqueue(k);
                 }
             }
-            int longestYet = 0;
+            int longest = 0;
             for (int k = 0; k < SQUARE && k < queued; k++) {
-                longestYet = Math.max(longestYet, rank[queue[k]] + 1);
+                longest = Math.max(longest, rank[queue[k]]);
                 release(loop, queue[k]);
             }
-            return queued == count ? longestYet : 0;
+            return queued == count ? longest : 0;
+        }
+
+        private void countWaits(Loop loop) {
+            Arrays.fill(waits, 0);
+            for (int k = 0; k < loop.points(); k++) {
+                int point = loop.pointAt(k);
+                int tile = tileOf(point);
+                for (int m = 0; m < loop.offsets; m++) {
+                    int below = loop.target(point, m);
+                    if (below != NONE && tileOf(below) != tile) {
+                        waits[tile]++;
+                    }
+                }
+            }
+        }
+
+        private int tileOf(int point) {
+            return point / SIDE / high * across + point % SIDE / wide;
         }
 
         private void enqueue(int tile) {
@@ -1753,19 +1767,18 @@ public final class PulseGrid {
             int start = tile % across * wide;
             for (int i = top; i < Math.min(loop.rows, top + high); i++) {
                 for (int j = start; j < Math.min(loop.columns, start + wide); j++) {
-                    releaseReaders(loop, i * SIDE + j);
+                    releaseReaders(loop, i * SIDE + j, tile);
                 }
             }
         }
 
-        private void releaseReaders(Loop loop, int point) {
-            int tile = tileOf[point];
+        private void releaseReaders(Loop loop, int point, int tile) {
             for (int k = 0; k < loop.offsets; k++) {
                 int above = loop.reader(point, k);
-                if (above == NONE || tileOf[above] == tile) {
+                int other = above == NONE ? tile : tileOf(above);
+                if (other == tile) {
                     continue;
                 }
-                int other = tileOf[above];
                 rank[other] = Math.max(rank[other], rank[tile] + 1);
                 waits[other]--;
                 if (waits[other] == 0) {
@@ -1780,7 +1793,8 @@ public final class PulseGrid {
             for (int r = 1; r <= loop.rows; r++) {
                 for (int c = 1; c <= loop.columns && r * c <= most; c++) {
                     cut(loop, r, c);
-                    if (longest > 0 && (bestRows == NONE || crossings < bestCrossings)) {
+                    boolean isFewer = bestRows == NONE || crossings < bestCrossings;
+                    if (isFewer && longestRow(loop) > 0) {
                         bestRows = r;
                         bestColumns = c;
                         bestCrossings = crossings;
