@@ -15,6 +15,10 @@ public final class PulseGrid {
     private static final int BOXES = 2;
 
     private final Tape tape = new Tape();
+    private Loop loop = new Loop();
+    // A text with a fault must leave the loop as it is, so texts are read into this one.
+    private Loop spare = new Loop();
+    private final Parser parser = new Parser(tape, spare);
     private final History history = new History();
     private final Layout[] boxes = new Layout[BOXES];
     private final boolean[] boxFull = new boolean[BOXES];
@@ -25,18 +29,13 @@ public final class PulseGrid {
     private final int[] values = new int[VARIABLES * SQUARE];
     private final int[] runValues = new int[VARIABLES * SQUARE];
     private final int[] otherValues = new int[VARIABLES * SQUARE];
-    private final Reckoner reckoner;
-    private Loop loop = new Loop();
-    // A text with a fault must leave the loop as it is, so texts are read into this one.
-    private Loop spare = new Loop();
-    private final Parser parser = new Parser(tape, spare);
+    private final Reckoner reckoner = new Reckoner(loop, web.depth, values);
     private boolean runIsFresh;
 
     public PulseGrid() {
         for (int k = 0; k < BOXES; k++) {
             boxes[k] = new Layout();
         }
-        reckoner = new Reckoner(loop, web.depth, values);
         takeUp();
     }
 
@@ -1041,7 +1040,7 @@ public final class PulseGrid {
             clear();
         }
 
-        private void clear() {
+        void clear() {
             rows = 1;
             columns = 1;
             variables = 0;

@@ -92,7 +92,7 @@ public final class FuzzTest {
         }
         switch (name) {
             case "fire":
-                return upTo(20) - 10;
+                return kind < 20 ? upTo(2) - 1 : upTo(20) - 10;
             case "onto":
                 return upTo(6) - 3;
             case "tiling":

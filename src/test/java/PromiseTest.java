@@ -462,6 +462,8 @@ public final class PromiseTest {
         due("an edge is for the place read", edges.value(1, 1, 1), 4 + 7);
         due("an edge is for the place read, below 0", edges.value(1, 0, 0), -100 + 3 + 7);
         due("the edge of the variable that is read", edges.value(2, 0, 0), -5);
+        PulseGrid names = grid("size 2 1; let ab = 3; let ac = ab(0,0) + ac(-1,0); let cb = ac(0,0) * 2 + ab(0,0);");
+        due("names of more letters", names.value(2, 1, 0), 15);
         due("an edge not told", grid("size 1 1; let a = a(1,0) + 5;").value(0, 0, 0), 5);
         due("none if not ordered", grid(ROUND).value(0, 0, 0), 0);
         PulseGrid power = grid("size 1 10; let a = a(0,-1) * 999 edge 999;");
@@ -539,6 +541,15 @@ public final class PromiseTest {
         PulseGrid two = grid("size 1 2; let x = j + 3; let y = x(0,0) * 2 + x(0,1); fire 0 1; onto 0 1;");
         due("of 0, 0 what was done just now", two.run(1, 0, 0), 6);
         due("beyond all points the edge", two.run(1, 0, 1), 8);
+        PulseGrid left = grid("size 1 2; let x = 5; fire 1 0; onto 0 -1;");
+        due("the first of a clash is done", left.run(0, 0, 0), 5);
+        due("the other one is not", left.run(0, 0, 1), 0);
+        PulseGrid upper = grid("size 2 1; let x = 5; fire 0 1; onto -1 0;");
+        due("the upper of a clash is done", upper.run(0, 0, 0), 5);
+        due("the lower one is not", upper.run(0, 1, 0), 0);
+        PulseGrid slant = grid("size 2 2; let x = 5; fire 1 1; onto -1 1;");
+        due("by i, then j: done", slant.run(0, 0, 1), 5);
+        due("by i, then j: not done", slant.run(0, 1, 0), 0);
         due("a point that is not ordered runs too", grid(ROUND).run(0, 1, 0), 2);
     }
 
@@ -825,6 +836,9 @@ public final class PromiseTest {
         due("fewest(6, true)", g.fewest(6, true), 2);
         due("fewest(5, true)", g.fewest(5, true), 3);
         due("fewest(4, true)", g.fewest(4, true), -1);
+        PulseGrid twelve = grid("size 3 4; fire 0 0; onto 3 1;");
+        due("all twelve, in turn", twelve.fewest(1, true), 12);
+        due("all twelve, in blocks", twelve.fewest(1, false), 12);
         due("fewest(-1, false)", g.fewest(-1, false), -1);
         due("fewest(MIN, false)", g.fewest(MIN, false), -1);
     }
@@ -1062,6 +1076,10 @@ public final class PromiseTest {
         g.onto(1, 0);
         g.broken(0, true);
         due("law(), a broken cell", g.law(), 0);
+        PulseGrid one = grid("size 2 2; let x = 1 + x(-1,0) + x(0,-1); onto 1 -1;");
+        due("one clash", one.plan(3), 1);
+        due("which is wrong", one.wrong(), 2);
+        due("law(), one clash", one.law(), 0);
         due("law(), none ordered", grid(ROUND).law(), 0);
         due("law(), far reads", grid("size 10 10; let x = x(-3,2) + x(-1,-3) * 2 edge i; fire 3 1; onto 1 1;").law(), 0);
     }
