@@ -111,6 +111,14 @@ final class CallBounds {
         Sentences.due("bytes", g.about(14), 9);
         Sentences.due("loop()", g.loop(), 0);
         Sentences.due("its size", new int[] {g.about(0), g.about(1)}, 7, 8);
+        Check.write(g, "size 1 11111");
+        Sentences.due("end(8), within a number", g.end(8), 8);
+        g.loop();
+        Sentences.due("its end", new int[] {g.fault(0), g.fault(1)}, 1, 8);
+        Check.write(g, "sizes 1 1;");
+        Sentences.due("end(4), within a word", g.end(4), 4);
+        g.loop();
+        Sentences.due("the end of that", new int[] {g.fault(0), g.fault(1)}, 1, 4);
         Check.write(g, "$$$");
         Sentences.due("end(0)", g.end(0), 0);
         Sentences.due("loop() of none", g.loop(), 0);
@@ -148,6 +156,7 @@ final class CallBounds {
         Sentences.due("bytes", g.about(14), 0);
         Sentences.due("loop() of the empty tape", g.loop(), 0);
         Sentences.due("one point then", g.about(0) * g.about(1), 1);
+        oneBehindAnother();
         whatIsNew();
         Sentences.says(4, "how many VARIABLES");
         String[] lets = {"", "let a = 1;", "let a = 1; let b = 1;", "let a = 1; let b = 1; let c = 1;"};
@@ -169,6 +178,31 @@ final class CallBounds {
             other.loop();
             Sentences.due("another loop() takes the empty tape", other.about(2), 0);
             sameButFault(text, one);
+        }
+    }
+
+    // Nothing of an earlier text, whether it was taken or not, is left for a later one.
+    private static void oneBehindAnother() {
+        String full = "size 3 4; let a = 1+a(-1,0)+a(0,-1)+a(-1,-1)+a(-2,0) edge i < j; let b = a(0,0)*2+b(-1,0) edge 3;"
+                + " let c = b(0,0)+a(0,0)+c(-1,0) edge 1; fire 2 3; onto 2 -1;";
+        String[] faulty = {"size 9 9; let q = q(1,1)+q(2,2) edge q", "size 9 9; fire 5 5; onto 3 3;", "size 9 9; let q = q(3,3)+q(2,1) edge 7;$"};
+        PulseGrid g = new PulseGrid();
+        PulseGrid fresh = Bounds.grid(full);
+        for (int k = 0; k < 6; k++) {
+            Check.write(g, full);
+            Sentences.due("a full text, time " + k, g.loop(), 3);
+            Sentences.due("about(0 ..), time " + k, abouts(g), 3, 4, 3, 4, 9, 2, 3, 2, -1, 1, 0, 15, 0, 0, 0);
+            Sentences.due("offset 3, time " + k, new int[] {g.offset(3, 0), g.offset(3, 1)}, -2, 0);
+            Sentences.due("c at the last point, time " + k, g.value(2, 2, 3), fresh.value(2, 2, 3));
+            if (k % 2 == 0) {
+                Check.write(g, faulty[k / 2]);
+                g.loop();
+            } else {
+                Check.write(g, "size 2 1; let x = x(-1,0) edge 4;");
+                g.loop();
+                Sentences.due("a small one, time " + k, abouts(g), 2, 1, 1, 1, 1, 1, 1, 1, 0, 1, 0, 2, 0, 0, 0);
+                Sentences.due("its tiles, flow, value", new int[] {g.tiles(1, 1, 1), g.tiles(1, 1, 3), g.flow(0, 0), g.value(0, 1, 0)}, 1, 2, 1, 4);
+            }
         }
     }
 
@@ -224,6 +258,11 @@ final class CallBounds {
         g.fire(99, 99);
         g.undo();
         Sentences.due("no other call changes it", g.fault(0), 4);
+        Check.write(g, "size 1 1; let a = 1 edge a(1,1);");
+        g.loop();
+        Check.write(g, "size 1 1; let a = a(1,1);");
+        g.loop();
+        Sentences.due("without, behind one in an edge", g.fault(0), 0);
         Check.write(g, "size 1 1;");
         g.loop();
         Sentences.due("without", g.fault(0), 0);

@@ -99,6 +99,9 @@ final class PointBounds {
         Sentences.due("behind back()", g.run(0, 2, 0), 2);
         g.busy(1, 4);
         Sentences.due("behind busy()", g.run(0, 2, 0), 2);
+        g.stirs(0, 1, 0);
+        g.fire(2, 0);
+        Sentences.due("behind stirs()", g.run(0, 2, 0), 2);
         Check.write(g, "size 1 1; let q = 9;");
         g.loop();
         Sentences.due("behind loop()", g.run(0, 0, 0), 9);
@@ -340,6 +343,7 @@ final class PointBounds {
         Sentences.due("each read", new int[] {g.flow(0, 0), g.flow(1, 0), g.flow(2, 0)}, 3, 3, 0);
         Sentences.due("a tick without points", new int[] {g.flow(3, 0), g.flow(1000, 0), g.flow(Bounds.MAX, 0)}, 0, 0, 0);
         Sentences.due("all reads", Bounds.grid("size 1 1; let a = a(1,0) + a(0,1) + a(1,1);").flow(0, 0), 3);
+        Sentences.due("all of twelve reads", Bounds.grid("size 1 1; let a = 1" + "+a(1,0)".repeat(12) + ";").flow(0, 0), 12);
         g.fire(0, 0);
         Sentences.due("not those of clashes", g.flow(0, 0), 5);
         Sentences.says(24, "how many such POINTS there are on which none hangs (1)");

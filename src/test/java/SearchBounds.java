@@ -98,6 +98,8 @@ final class SearchBounds {
         PulseGrid row = Bounds.grid("size 2 5; let x = x(0,-1);");
         // -3 p + 2 q below 0 and 3 p - 3 q below 0: q above p, 2 q below 3 p: 3, 4 is the first.
         PulseGrid far = Bounds.grid("size 2 2; let x = x(-3,2) + x(3,-3);");
+        PulseGrid steep = Bounds.grid("size 2 2; let x = x(-1,3) + x(0,-2) + x(-1,2);");
+        Sentences.due("4 1 alone", new int[] {steep.pair(3, 0), steep.pair(4, 0), steep.pair(4, 1), steep.pair(4, 2)}, -1000, 12, 4, 1);
         Sentences.due("one point", new int[] {one.pair(1, 0), one.pair(4, 0)}, 1, 1);
         Sentences.due("a row", new int[] {row.pair(1, 0), row.pair(4, 0)}, 10, 10);
         Sentences.due("by 4 alone", new int[] {far.pair(3, 0), far.pair(4, 0)}, -1000, 16);
@@ -211,6 +213,9 @@ final class SearchBounds {
         }
         PulseGrid all = Bounds.grid("size 10 10; let x = 1; fire 0 0; onto 0 1;");
         Sentences.due("the last of 90", new int[] {all.wrongAt(0), all.wrongAt(89)}, 1, 99);
+        all.broken(0, true);
+        Sentences.due("the first point, too", new int[] {all.wrongAt(0), all.wrongAt(1), all.wrongAt(90)}, 0, 1, 99);
+        all.undo();
         Sentences.says(32, "NONE if there is none such.");
         Sentences.due("one behind the last", new int[] {g.wrongAt(6), all.wrongAt(90), all.wrongAt(100)}, -1, -1, -1);
         for (int no : new int[] {-1, -2, Bounds.MIN, Bounds.MAX}) {
@@ -259,6 +264,12 @@ final class SearchBounds {
         Sentences.due("tiles(2, 3, 1)", g.tiles(2, 3, 1), 16);
         Sentences.due("each its own", g.tiles(1, 1, 1), 16 + 12);
         Sentences.due("one for all", new int[] {g.tiles(5, 4, 1), g.tiles(10, 10, 1)}, 0, 0);
+        StringBuilder twelve = new StringBuilder("size 5 5; let a = 1");
+        for (int k = 0; k < 12; k++) {
+            twelve.append("+a(").append(k / 4 - 3).append(',').append(k % 4).append(')');
+        }
+        PulseGrid full = Bounds.grid(twelve + ";");
+        Sentences.due("by twelve offsets", new int[] {full.tiles(5, 5, 1), full.tiles(1, 1, 1), full.tiles(1, 5, 3)}, 0, 9 * 14, 5);
         Sentences.due("those at the end", new int[] {big.tiles(9, 10, 1), big.tiles(10, 9, 1), big.tiles(4, 4, 1)}, 10, 10, 40);
         tilesInOrder(g, big);
         Sentences.says(34, "NONE if there are none such");
@@ -279,10 +290,13 @@ final class SearchBounds {
         Sentences.due("they can", new int[] {g.tiles(2, 3, 2), big.tiles(1, 1, 2), big.tiles(10, 10, 2), new PulseGrid().tiles(1, 1, 2)}, 1, 1, 1, 1);
         Sentences.due("they go round", round.tiles(1, 2, 2), 0);
         Sentences.due("points go round, each within its tile", round.tiles(2, 1, 2), 1);
+        Sentences.due("the first goes round", Bounds.grid("size 1 2; let x = x(0,1) + x(0,-1);").tiles(1, 1, 2), 0);
+        Sentences.due("some go round", Bounds.grid("size 2 2; let x = x(1,-1) + x(-1,1);").tiles(1, 1, 2), 0);
         Sentences.due("tiles go round, though no points", new int[] {cross.plan(6), cross.tiles(2, 1, 2), cross.tiles(2, 2, 2)}, 0, 0, 0);
         Sentences.says(34, "3: how many are on a longest row of TILES each of which hangs on the one ahead (0 if they can't be done so)");
         Sentences.due("one tile", new int[] {g.tiles(10, 10, 3), round.tiles(2, 2, 3), new PulseGrid().tiles(1, 1, 3)}, 1, 1, 1);
         Sentences.due("none hangs on another", Bounds.grid("size 4 4; let x = 1;").tiles(1, 1, 3), 1);
+        Sentences.due("the first is the last", Bounds.grid("size 3 1; let x = x(1,0);").tiles(1, 1, 3), 3);
         Sentences.due("rows", new int[] {g.tiles(2, 3, 3), big.tiles(1, 1, 3), big.tiles(3, 3, 3)}, 4, 19, 7);
         Sentences.due("they can't", new int[] {round.tiles(1, 2, 3), cross.tiles(2, 2, 3)}, 0, 0);
         Sentences.says(34, "(A TILE hangs on another one, if a POINT of it does.)");
@@ -449,6 +463,7 @@ final class SearchBounds {
         Sentences.due("those ordered alone", lone.total(0, 0), -7);
         Sentences.says(41, "1: the greatest, 2: the least");
         Sentences.due("two variables", new int[] {g.total(0, 1), g.total(0, 2), g.total(1, 1), g.total(1, 2)}, 3, 2, -3, -4);
+        Sentences.due("one point alone, above 0", four(what -> Bounds.grid(Bounds.LONE).total(0, what)), 1, 1, 1, 2);
         Sentences.due("one point alone, below 0", new int[] {lone.total(0, 1), lone.total(0, 2)}, -7, -7);
         PulseGrid ends = Bounds.grid("size 1 2; let x = " + GREATEST + " + j;");
         Sentences.due("the ends of the ints", new int[] {ends.total(0, 1), ends.total(0, 2)}, Bounds.MAX, Bounds.MIN);
@@ -484,6 +499,8 @@ final class SearchBounds {
         Sentences.due("not lawful, with wrong points", new int[] {g.law(), g.wrong()}, 0, 6);
         g.fire(1, 1);
         g.onto(1, -1);
+        PulseGrid once = Bounds.grid("size 2 2; let x = 1 + x(-1,0) + x(0,-1); onto 1 -1;");
+        Sentences.due("with one clash", new int[] {once.law(), once.plan(3), once.wrong()}, 0, 1, 2);
         Sentences.due("with clashes, and wrong points", new int[] {g.law(), g.plan(3), g.wrong()}, 0, 4, 6);
         g.onto(1, 0);
         g.broken(0, true);

@@ -44,6 +44,10 @@ final class TextBounds {
         Bounds.faulty(whole.substring(0, 799), 1, 799);
         Bounds.faulty(whole.substring(0, 799) + "$", 1, 799);
         Bounds.faulty(whole.substring(0, 799) + " ", 1, 800);
+        Bounds.faulty(whole.substring(0, 798) + "12", 2, 798);
+        Bounds.faulty("size 1 1" + " ".repeat(791) + "1", 1, 799);
+        Bounds.faulty("size 1" + " ".repeat(793) + "1", 1, 800);
+        Bounds.faulty("size 1 1;" + " ".repeat(788) + "let", 1, 800);
         PulseGrid g = new PulseGrid();
         Check.write(g, whole);
         Sentences.due("byte 801", g.feed(0, 0, 0, 0, 0), Bounds.NONE);
@@ -103,7 +107,9 @@ final class TextBounds {
         Sentences.due("7 < 2", valueOf("7 < 2"), 2);
         Sentences.due("one behind another: 7 > 2 < 3", valueOf("7 > 2 < 3"), 3);
         Sentences.due("one behind another: 3 < 2 > 7", valueOf("3 < 2 > 7"), 7);
-        Sentences.due("sums first: 1 + 5 < 2 + 3", valueOf("1 + 5 < 2 + 3"), 5);
+        Sentences.due("sums first: 1 + 2 < 2 + 2", valueOf("1 + 2 < 2 + 2"), 3);
+        Sentences.due("sums first: 9 - 1 > 9 - 2", valueOf("9 - 1 > 9 - 2"), 8);
+        Sentences.due("of an edge, too", valueOf("a(1,0) edge 7 > 2 < 3"), 3);
         Bounds.faulty(HEAD + "let a = 1 <;", 1, 21);
         Bounds.faulty(HEAD + "let a = > 1;", 1, 18);
         Bounds.faulty(HEAD + "let a = 1 << 1;", 1, 21);
@@ -146,6 +152,8 @@ final class TextBounds {
         Bounds.faulty(HEAD + "let a = a(,1);", 1, 20);
         Bounds.faulty(HEAD + "let a = a(1 1);", 1, 22);
         Bounds.faulty(HEAD + "let a = a(1,1;", 1, 23);
+        Bounds.faulty(HEAD + "let a = a(1,1 + $;", 1, 24);
+        Bounds.faulty(HEAD + "let a = (1 ; + $);", 1, 21);
         Bounds.faulty(HEAD + "let a = a(1,1,1);", 1, 23);
         Bounds.faulty(HEAD + "let a = a(i,1);", 1, 20);
         Bounds.faulty(HEAD + "let a = i(1,1);", 1, 19);
