@@ -278,6 +278,8 @@ final class TextBounds {
         Sentences.due("told", valueOf("a(1,0) edge 7"), 7);
         PulseGrid mixed = Bounds.grid(HEAD + "let a = 1 edge 5; let b = a(0,1) edge 0 - 6; let c = b(0,1) + c(1,0) * 100 + a(0,-1);");
         Sentences.due("each its own", mixed.value(2, 0, 0), -6 + 5);
+        PulseGrid all = Bounds.grid(HEAD + "let a = 1 edge 5; let b = a(0,1) edge 6; let c = c(1,0) * 100 + b(0,1) * 10 + a(0,-1) edge 7;");
+        Sentences.due("that of the last variable, too", all.value(2, 0, 0), 765);
         Sentences.says(TERMS, "in which there is no NAME");
         Bounds.faulty(HEAD + "let a = 1 edge a(1,0);", 3, 25);
         Bounds.faulty(HEAD + "let a = 1; let b = 1 edge a(0,0);", 3, 36);
